@@ -107,6 +107,9 @@ public final class Promise04SetTest {
         set(board("Ka1", "kh3", "pc4"), 1, 0, 2, 0, 0);
         set(board("Ka1", "kh3", "nc5"), 0, 0, 2, 0, 0);
         set(board("Ka1", "kh3", "pc6"), 0, 0, 2, 0, 0);
+        // A file beyond the edge is none of the next rank.
+        set(board("Kd4", "kg5", "pa6"), 0, 0, 8, 0, 0);
+        set(board("Kd4", "kg5", "pg4"), 0, 0, -2, 0, 0);
     }
 
     private static void forgets() {

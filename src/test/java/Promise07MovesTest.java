@@ -44,6 +44,7 @@ public final class Promise07MovesTest {
         moves("2n1n3/3P4/8/8/8/8/8/k6K w - - 0", 15);
         moves("2nqn3/3P4/8/8/8/8/8/k6K w - - 0", 11);
         moves("8/8/p6P/7p/P7/8/8/k6K w - - 0", 5);
+        moves("2n5/1P1P4/8/8/8/8/8/k6K w - - 0", 19);
     }
 
     private static void takingPassing() {

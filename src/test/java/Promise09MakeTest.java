@@ -42,6 +42,10 @@ public final class Promise09MakeTest {
         }
         Due.same("state(4)", x.state(4), 0);
         Due.refuse(Due.fromText("8/P6k/8/8/8/8/p6K/8 w - - 7"), "a7a8", "a2a1q", "h2h3q", "a7b8q");
+        ChessLedger last = Due.fromText("8/P6k/8/8/8/8/p6K/8 w - - 7");
+        for (int becomes : new int[] {-8, -4, -1, 0, 5, 6, 8, 16}) {
+            Due.same("make a7a8, becoming " + becomes, last.make(Due.code("a7a8") + 4096 * becomes), 0);
+        }
         Due.refuse(Due.fromText("1r2k3/8/8/8/8/8/8/R3K3 w - - 0"), "e1c1");
         Due.refuse(Due.fromText("3rk3/8/8/8/8/8/8/R3K3 w Q - 0"), "e1c1", "e1d1", "e1d2");
         Due.refuse(Due.fromText("8/8/8/K2pP2r/8/8/8/7k w - d6 0"), "e5d6");

@@ -12,6 +12,9 @@ public final class Promise16MatesTest {
         // The rook makes mate by its own move and by castling.
         mates("4rkr1/4p1p1/8/8/8/8/8/4K2R w K - 0", 2);
         mates("4rkr1/4p1p1/8/8/8/8/8/4K2R w - - 0", 1);
+        // The mating move is the first one, and the last one.
+        mates("r5k1/8/8/8/8/8/6PP/7K b - - 0", 1);
+        mates("k7/7R/1K6/8/8/8/8/8 w - - 0", 1);
         // Stalemate is no mate.
         mates("7k/8/5K2/8/8/8/8/6Q1 w - - 0", 1);
         mates("7k/6Q1/6K1/8/8/8/8/8 b - - 4", 0);
