@@ -5,29 +5,51 @@ final class Due {
 
     private static int compared = 0;
     private static int wrong = 0;
+    private static String sentence = "";
+    private static int sentences = 0;
+    private static int comparedBefore = 0;
 
     private Due() {
+    }
+
+    /** The words of the document that the answers from here on test. */
+    static void sentence(String words) {
+        closeSentence();
+        sentence = "\"" + words + "\": ";
+        sentences++;
+    }
+
+    private static void closeSentence() {
+        if (sentences > 0 && compared == comparedBefore) {
+            complain("nothing was compared");
+        }
+        comparedBefore = compared;
+    }
+
+    private static void complain(String what) {
+        wrong++;
+        System.out.println(sentence + what);
     }
 
     static void same(String call, long got, long want) {
         compared++;
         if (got != want) {
-            wrong++;
-            System.out.println(call + " answered " + got + ", due is " + want);
+            complain(call + " answered " + got + ", due is " + want);
         }
     }
 
     static void same(String call, String got, String want) {
         compared++;
         if (!got.equals(want)) {
-            wrong++;
-            System.out.println(call + " answered " + got + ", due is " + want);
+            complain(call + " answered " + got + ", due is " + want);
         }
     }
 
     /** Ends the test, with exit code 1 if an answer was not the one that is due. */
     static void finish() {
-        System.out.println(compared + " answers compared, " + wrong + " wrong");
+        closeSentence();
+        String told = sentences > 0 ? sentences + " sentences, " : "";
+        System.out.println(told + compared + " answers compared, " + wrong + " wrong");
         if (wrong != 0 || compared == 0) {
             System.exit(1);
         }

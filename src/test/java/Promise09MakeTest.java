@@ -34,8 +34,11 @@ public final class Promise09MakeTest {
     }
 
     private static void refused() {
+        for (String move : new String[] {"e2e5", "e7e5", "e1e2", "a1a2", "e1g1", "b1d2", "e2d3", "e4e5", "e2e4q",
+            "g1f3n", "a1a1"}) {
+            Due.refuse(Due.fromText(Due.START), move);
+        }
         ChessLedger x = Due.fromText(Due.START);
-        Due.refuse(x, "e2e5", "e7e5", "e1e2", "a1a2", "e1g1", "b1d2", "e2d3", "e4e5", "e2e4q", "g1f3n", "a1a1");
         for (int code : new int[] {-1, 0, 4096, 20480, Due.code("g1f3") + 20480, Due.code("g1f3") - 20480,
             Due.code("g1f3") | 1 << 31, Integer.MIN_VALUE, Integer.MAX_VALUE}) {
             Due.same("make(" + code + ")", x.make(code), 0);

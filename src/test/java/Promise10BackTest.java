@@ -1,5 +1,4 @@
-import java.util.ArrayList;
-import java.util.List;
+import java.util.Arrays;
 
 /** back: the last move is taken back, with all that it changed. */
 public final class Promise10BackTest {
@@ -16,19 +15,25 @@ public final class Promise10BackTest {
         Due.finish();
     }
 
+    /** Taken back to each place on the way, the object tells what one tells that never went on. */
     private static void roundTrip(String text, String... moves) {
-        ChessLedger x = Due.fromText(text);
-        List<String> before = new ArrayList<>();
-        for (String move : moves) {
-            before.add(Due.print(x) + " " + x.moves() + " " + x.seen() + " " + x.state(4));
-            Due.make(x, move);
+        for (int left = moves.length; left >= 0; left--) {
+            ChessLedger x = Due.fromText(text);
+            Due.make(x, moves);
+            for (int i = moves.length; i > left; i--) {
+                Due.same("back() of " + moves[i - 1], x.back(), 1);
+            }
+            ChessLedger y = Due.fromText(text);
+            Due.make(y, Arrays.copyOf(moves, left));
+            Due.same("the position taken back to " + left, told(x), told(y));
+            Due.same("back()", x.back(), left > 0 ? 1 : 0);
+            if (left == 0) {
+                Due.same("the position at first", Due.print(x), text);
+            }
         }
-        for (int i = moves.length - 1; i >= 0; i--) {
-            Due.same("back() of " + moves[i], x.back(), 1);
-            String now = Due.print(x) + " " + x.moves() + " " + x.seen() + " " + x.state(4);
-            Due.same("the position behind back() of " + moves[i], now, before.get(i));
-        }
-        Due.same("back() when none was made", x.back(), 0);
-        Due.same("the position at first", Due.print(x), text);
+    }
+
+    private static String told(ChessLedger x) {
+        return Due.print(x) + " " + x.moves() + " " + x.seen() + " " + x.state(4);
     }
 }

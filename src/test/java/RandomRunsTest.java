@@ -40,14 +40,15 @@ public final class RandomRunsTest {
         }
     }
 
-    private boolean hasRoom() {
-        return calls < 500;
+    /** Whether so many calls more are still promised: an object is used for at most 512. */
+    private boolean hasRoom(int more) {
+        return calls + more <= 512;
     }
 
     private void games() {
         type(TEXTS[random.nextInt(TEXTS.length)]);
         read();
-        while (hasRoom()) {
+        while (hasRoom(4)) {
             int what = random.nextInt(10);
             if (what < 6) {
                 makeRandom();
@@ -65,7 +66,7 @@ public final class RandomRunsTest {
             "k7/p1p5/P1P5/8/8/8/8/7K w - - 0", "r3k3/8/8/8/8/8/8/4K2R w Kq - 0"};
         type(few[random.nextInt(few.length)]);
         read();
-        while (hasRoom()) {
+        while (hasRoom(4)) {
             int n = model.before.size();
             int last = n < 2 ? -1 : undone(n);
             if (last >= 0 && random.nextInt(5) > 0 && model.now.legal().contains(last)) {
@@ -97,7 +98,7 @@ public final class RandomRunsTest {
     }
 
     private void boards() {
-        while (hasRoom()) {
+        while (hasRoom(115)) {
             x.clear();
             model.clear();
             calls++;
@@ -131,7 +132,7 @@ public final class RandomRunsTest {
 
     private void texts() {
         String letters = "PNBRQKpnbrqk12345678/ wbKQkq-abcdefgh360123456789x.9";
-        while (hasRoom()) {
+        while (hasRoom(36)) {
             StringBuilder text = new StringBuilder(TEXTS[random.nextInt(TEXTS.length)]);
             int changes = random.nextInt(3);
             for (int i = 0; i < changes && text.length() > 0; i++) {
