@@ -283,6 +283,11 @@ public final class EdgesCallsTest {
         }
         Due.same("check() of a new object", new ChessLedger().check(), -1);
         ChessLedger x = Due.fromText(Due.START);
+        for (String move : new String[] {"e2e4", "d7d5", "e4d5", "g8f6", "f1b5", "c7c6", "g1f3", "c6b5"}) {
+            Due.make(x, move);
+            Due.same("check() behind " + move, x.check(), 1);
+        }
+        Due.same("state(4)", x.state(4), 8);
         x.put(0, 4);
         Due.same("check() behind put", x.check(), -1);
         x.clear();

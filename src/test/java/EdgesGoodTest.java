@@ -12,6 +12,7 @@ public final class EdgesGoodTest {
         fileNeedsThePawn();
         fileNeedsTheOtherSidesPawn();
         fileNeedsEmptySquares();
+        fileBeyondTheEdge();
         whatIsNotAsked();
         Due.finish();
     }
@@ -239,6 +240,26 @@ public final class EdgesGoodTest {
             withAndWithoutFile(passed(file, "P" + letter + "4", "N" + letter + "1"), true);
             char beside = (char) (letter == 'h' ? 'g' : letter + 1);
             withAndWithoutFile(passed(file, "P" + letter + "4", "N" + beside + "2", "n" + beside + "3"), true);
+        }
+    }
+
+    /** Squares are counted on from rank to rank, but a file beyond the edge is none of the next rank. */
+    private static void fileBeyondTheEdge() {
+        Due.sentence("file not NONE or 0 .. 7");
+        for (int file : new int[] {8, -2, 9, 15, 16, -8, -7, -3}) {
+            int pawn = 32 + file;
+            Setup s = Setup.of("Kd1", "kd8").state(0, 0, file, 0);
+            s.squares[pawn] = 'p';
+            Due.same("set() with FILE " + file, s.set(s.putDown()), 0);
+            Setup m = s.copy().state(1, 0, file, 0);
+            m.squares[pawn] = '.';
+            m.squares[24 + file] = 'P';
+            Due.same("set() with FILE " + file, m.set(m.putDown()), 0);
+        }
+        for (int file : new int[] {0, 7}) {
+            Setup s = Setup.of("Kd1", "kd8").state(0, 0, file, 0);
+            s.squares[32 + file] = 'p';
+            Due.same("set() with FILE " + file, s.set(s.putDown()), 1);
         }
     }
 

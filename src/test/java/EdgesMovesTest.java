@@ -16,6 +16,7 @@ public final class EdgesMovesTest {
         passingOnlyByPawns();
         passingEdges();
         becomes();
+        twoBecome();
         becomesOnlyThere();
         ownKingAttacked();
         kingGoes();
@@ -277,6 +278,17 @@ public final class EdgesMovesTest {
             Due.same("back()", x.back(), want ? 1 : 0);
             Due.same("the position", Due.print(x), s.text());
         }
+    }
+
+    /** Two pawns that may come to one square, and one that may come to three. */
+    private static void twoBecome() {
+        Due.sentence("becomes a knight, bishop, rook or queen");
+        goes("2n5/1P1P4/8/8/8/8/8/k6K w - - 0", "b7", "b8", "c8");
+        goes("2n5/1P1P4/8/8/8/8/8/k6K w - - 0", "d7", "d8", "c8");
+        goes("1rbq4/2P5/8/8/8/8/8/k6K w - - 0", "c7", "b8", "d8");
+        goes("1r1q4/2P5/8/8/8/8/8/k6K w - - 0", "c7", "b8", "c8", "d8");
+        Due.same("moves() with two", Due.fromText("2n5/1P1P4/8/8/8/8/8/k6K w - - 0").moves(), 19);
+        Due.same("moves() with one to three", Due.fromText("1r1q4/2P5/8/8/8/8/8/k6K w - - 0").moves(), 15);
     }
 
     private static void becomesOnlyThere() {

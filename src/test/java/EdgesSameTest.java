@@ -4,6 +4,7 @@ public final class EdgesSameTest {
 
     public static void main(String[] args) {
         allSquares();
+        pieceBesideAnother();
         equalPiecesChangePlaces();
         whoseTurn();
         rights();
@@ -49,6 +50,15 @@ public final class EdgesSameTest {
         seenBehind("n6k/8/8/8/8/8/8/K6N w - - 0", 2, "h1g3", "a8b6", "g3h1", "b6a8");
     }
 
+    /** The same pieces, one of them always beside another. */
+    private static void pieceBesideAnother() {
+        Due.sentence("all squares");
+        seenBehind("7k/8/8/8/4P3/2P5/Pn6/6K1 w - - 0", 1, "g1h1", "b2d3", "h1g1", "d3f4");
+        seenBehind("7k/8/8/8/4P3/2P5/Pn6/6K1 w - - 0", 2, "g1h1", "b2d3", "h1g1", "d3b2");
+        seenBehind("7k/8/8/8/8/8/8/NB4K1 w - - 0", 1, "a1b3", "h8g8", "b3c1", "g8h8");
+        seenBehind("7k/8/8/8/8/8/8/NB4K1 w - - 0", 2, "a1b3", "h8g8", "b3a1", "g8h8");
+    }
+
     private static void equalPiecesChangePlaces() {
         Due.sentence("all squares, whose turn it is");
         seenBehind("4k3/8/8/3N4/8/2N5/8/4K3 w - - 0", 2, "c3e4", "e8d8", "d5c3", "d8e8", "e4f6", "e8d8", "f6d5", "d8e8");
@@ -75,6 +85,9 @@ public final class EdgesSameTest {
             seenBehind(castles + gone + " - 0", 1, round);
             seenBehind(castles + gone + " - 0", 2, "h1g1", "e8e7", "g1h1", "e7e8", "h1g1", "e8e7", "g1h1", "e7e8");
         }
+        // Turn and rights both differ.
+        seenBehind("4k3/8/8/8/8/8/8/4K2R w K - 0", 1, "h1h3", "e8d8", "h3h2", "d8e8", "h2h1");
+        seenBehind("4k3/8/8/8/8/8/8/R3K3 w Q - 0", 1, "a1a3", "e8d8", "a3a2", "d8e8", "a2a1");
         // Each right by itself: the rook of the other wing comes and goes, and nothing is lost.
         seenBehind(castles + "K - 0", 2, "a1b1", "a8b8", "b1a1", "b8a8");
         seenBehind(castles + "Q - 0", 1, "a1b1", "a8b8", "b1a1", "b8a8");

@@ -23,6 +23,7 @@ public final class EdgesTextTest {
         behindTheText();
         noGoodPosition();
         emptyBehindRead();
+        nothingOfAnEarlierText();
         noMovesMade();
         typeNumbers();
         typeCharacters();
@@ -30,6 +31,7 @@ public final class EdgesTextTest {
         typeHundred();
         printEach();
         printDigits();
+        printCounts();
         characterPlaces();
         Due.finish();
     }
@@ -331,6 +333,28 @@ public final class EdgesTextTest {
         }
     }
 
+    /** Texts in all orders, on one object each time: what one tells does not stay for the next. */
+    private static void nothingOfAnEarlierText() {
+        Due.sentence("It becomes the position");
+        String[] texts = {Due.START, TWO_KINGS + "b - - 0", TWO_KINGS + "w - - 150", Due.CASTLES,
+            "k7/8/8/3p4/8/8/8/7K w - d6 0", "k7/8/8/8/3P4/8/8/7K b - d3 17", "k7/8/8/3p4/8/8/8/7K w - d3 0",
+            "k7/8/8/8/3P4/8/8/7K b - d6 17", "k7/8/8/3p4/8/8/8/7K w KQkq d6 999", "k7/8/8/8/3P4/8/8/7K b KQ h3"};
+        for (String first : texts) {
+            for (String second : texts) {
+                ChessLedger x = new ChessLedger();
+                int told = Due.read(new ChessLedger(), second);
+                Due.read(x, first);
+                Due.same("read() of " + second + " behind " + first, Due.read(x, second), told);
+                if (told == 0) {
+                    Due.same("the position", Due.print(x), second);
+                }
+            }
+        }
+        for (int i = 0; i < texts.length; i++) {
+            read(texts[i], new int[] {0, 0, 0, 0, 0, 0, -2, -2, -2, 28}[i]);
+        }
+    }
+
     private static void noMovesMade() {
         Due.sentence("It becomes the position, with no moves made");
         ChessLedger x = Due.fromText(Due.START);
@@ -479,6 +503,20 @@ public final class EdgesTextTest {
         Due.same("print() at COUNT 13", length[4], 30);
         Due.same("print() at COUNT 97", length[88], 30);
         Due.same("print() at COUNT 101", length[92], 31);
+    }
+
+    /** Moves bring the COUNT up to 450, three digits all the same. */
+    private static void printCounts() {
+        Due.sentence("THE COUNT in decimal");
+        String[] round = {"h1h2", "a8a7", "h2h1", "a7a8"};
+        for (int count : new int[] {151, 159, 160, 161, 198, 199, 200, 201, 297, 299, 300, 301, 396, 399, 400, 449, 450}) {
+            ChessLedger x = Due.fromText("r3k3/8/8/8/8/8/8/4K2R w - - 150");
+            for (int i = 150; i < count; i++) {
+                x.make(Due.code(round[(i - 150) % 4]));
+            }
+            String text = Due.print(x);
+            Due.same("the COUNT printed", text.substring(text.lastIndexOf(' ') + 1), "" + count);
+        }
     }
 
     private static void characterPlaces() {
