@@ -47,27 +47,28 @@ public final class ChessLedger {
     private static final int[] KNIGHT_FILES = {1, 2, 2, 1, -1, -2, -2, -1};
     private static final int[] KNIGHT_RANKS = {2, 1, -1, -2, -2, -1, 1, 2};
 
-    private final Board board;
-    private final Board draft;
     private final Game game;
+    private final Board board;
     private final Past past;
     private final MoveTable now;
     private final MoveTable next;
-    private final Text typed;
-    private final Text printed;
     private final Reader reader;
+    private final Text typed;
+    private final Board draft;
+    private final Text printed;
     private boolean good;
 
     public ChessLedger() {
-        board = new Board();
-        draft = new Board();
-        game = new Game(board);
+        // Game and Reader make what they work on, so that no constructor hands a part of this out.
+        game = new Game();
+        board = game.board;
         past = new Past();
         now = new MoveTable();
         next = new MoveTable();
-        typed = new Text();
+        reader = new Reader();
+        typed = reader.text;
+        draft = reader.draft;
         printed = new Text();
-        reader = new Reader(typed, draft);
         good = false;
     }
 
@@ -769,7 +770,7 @@ public final class ChessLedger {
         }
     }
 
-    /** Moves made on a board, with what is needed to take them back. */
+    /** A board and the moves made on it, with what is needed to take them back. */
     private static final class Game {
         // One more than may be made, since counting lines tries a move behind the last one.
         private static final int ROOM = MOST_MADE + 1;
@@ -782,8 +783,8 @@ public final class ChessLedger {
         private final int[] countsBefore;
         private int length;
 
-        Game(Board board) {
-            this.board = board;
+        Game() {
+            board = new Board();
             codes = new int[ROOM];
             takenPieces = new int[ROOM];
             rightsBefore = new int[ROOM];
@@ -1036,8 +1037,8 @@ public final class ChessLedger {
     }
 
     /**
-     * Reads a text into a draft of a position. Each part stops at the character that can't stand, or
-     * behind the last one, and there the text has none.
+     * The typed text and the draft of a position into which it is read. Each part stops at the
+     * character that can't stand, or behind the last one, and there the text has none.
      */
     private static final class Reader {
         private final Text text;
@@ -1045,9 +1046,9 @@ public final class ChessLedger {
         private int place;
         private int passedRank;
 
-        Reader(Text text, Board draft) {
-            this.text = text;
-            this.draft = draft;
+        Reader() {
+            text = new Text();
+            draft = new Board();
             place = 0;
             passedRank = NONE;
         }
