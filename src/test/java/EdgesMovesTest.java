@@ -362,6 +362,8 @@ public final class EdgesMovesTest {
         // Another piece gives check as well, or instead.
         goes("4r2k/8/8/3p2P1/4K3/8/8/8 w - d6 0", "g5");
         goes("r6k/8/8/3pP3/8/8/8/K7 w - d6 0", "e5");
+        goes("7k/8/8/3pP3/8/3n4/8/4K3 w - d6 0", "e5");
+        goes("7k/8/8/3pP3/8/8/3p4/4K3 w - d6 0", "e5");
     }
 
     private static void codes() {

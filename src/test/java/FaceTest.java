@@ -13,15 +13,14 @@ import java.util.TreeSet;
 /** That the class has the members of the document's public face, and no other that can be seen. */
 public final class FaceTest {
     private static final Path DOCUMENT = Path.of("../shared/DOC.md");
-    private static final int NOT_PRIVATE = ~Modifier.PRIVATE;
 
     public static void main(String[] args) throws IOException, IllegalAccessException {
         List<String> face = faceOfTheDocument();
         members(face);
         declaration(face);
-        constants();
         classesInside();
         namesOfPrivateMethods();
+        constants();
         Due.finish();
     }
 
@@ -85,7 +84,7 @@ public final class FaceTest {
     }
 
     private static String modifiers(int modifiers) {
-        String words = Modifier.toString(modifiers & NOT_PRIVATE);
+        String words = Modifier.toString(modifiers);
         return words.isEmpty() ? "" : words + " ";
     }
 
@@ -109,18 +108,6 @@ public final class FaceTest {
         Due.same("how many type parameters it has", type.getTypeParameters().length, 0);
     }
 
-    private static void constants() {
-        Due.sentence("The constants: `NONE = -1`: There is none.");
-        // Compiled in here, so it must be a constant to the compiler too.
-        switch (-1) {
-            case ChessLedger.NONE:
-                Due.same("NONE", ChessLedger.NONE, -1);
-                break;
-            default:
-                Due.same("NONE", 0, -1);
-        }
-    }
-
     private static void classesInside() {
         for (Class<?> inside : ChessLedger.class.getDeclaredClasses()) {
             int modifiers = inside.getModifiers();
@@ -140,6 +127,18 @@ public final class FaceTest {
                 Due.same("whether a public method bears the name of the private " + method.getName(),
                         names.contains(method.getName()) ? 1 : 0, 0);
             }
+        }
+    }
+
+    private static void constants() {
+        Due.sentence("The constants: `NONE = -1`: There is none.");
+        // Compiled in here, so it must be a constant to the compiler too.
+        switch (-1) {
+            case ChessLedger.NONE:
+                Due.same("NONE", ChessLedger.NONE, -1);
+                break;
+            default:
+                Due.same("NONE", 0, -1);
         }
     }
 }

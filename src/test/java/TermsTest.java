@@ -85,7 +85,7 @@ public final class TermsTest {
             ChessLedger x = Due.fromText(ROOKS);
             Due.same("set()", x.set(side, 0, -1, 0), 1);
             Due.same("state(0)", x.state(0), side);
-            for (int i = 0; i < 24; i++) {
+            for (int i = x.moves() - 1; i >= 0; i--) {
                 int piece = x.at(x.move(i) & 63);
                 Due.same("whose piece move " + i + " goes with", piece >= 1 && piece <= 6 ? 0 : 1, side);
             }
